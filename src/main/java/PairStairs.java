@@ -897,7 +897,6 @@ public final class PairStairs {
 
         /** Becomes what the TEXT says: NONE, or the FAULT by which it says nothing. */
         int read(int[] places, int size) {
-            limit = 0;
             stones = 0;
             people = 0;
             awaited = AHEAD;
@@ -1173,26 +1172,20 @@ public final class PairStairs {
                 first[place] = by;
                 line[lineEnd] = place;
                 lineEnd++;
-            } else if (distance[place] == far && by < first[place]) {
-                first[place] = by;
             }
         }
 
-        /** The nearest place where of a set just these are at the TOP (of like ones that with the least first GO). */
+        /**
+         * The nearest place where of a set just these are at the TOP, of like ones the one with the least first GO:
+         * as pairs are tried in their order, the line holds the places in just this order.
+         */
         int nearest(int set, int top) {
-            int nearest = NONE;
             for (int k = 0; k < lineEnd && k < ALL; k++) {
-                int place = line[k];
-                if ((place & set) == top && (nearest == NONE || isNearer(place, nearest))) {
-                    nearest = place;
+                if ((line[k] & set) == top) {
+                    return line[k];
                 }
             }
-            return nearest;
-        }
-
-        private boolean isNearer(int place, int other) {
-            boolean isLike = distance[place] == distance[other];
-            return isLike ? first[place] < first[other] : distance[place] < distance[other];
+            return NONE;
         }
 
         /** Who is elsewhere in some place that can be reached. */
