@@ -10,6 +10,8 @@ public final class PairStairs {
     private static final int MOST_PEOPLE = 6, MOST_STONES = 4, MOST_DEEDS = 40, MOST_LOAVES = 9, MOST_POUNDS = 99;
     private static final int MOST_SANK = 200, MOST_WEIGHED = 16, MOST_TURNS = 2, MOST_LOTS = 20, TWELVE = 12;
     private static final int PLACES = 3;
+    /** More than any steps and sets of STONES come to. */
+    private static final int FAR = 1 << 30;
     private static final long LOTS_TIMES = 48271L, LOTS_MODULO = 2147483647L;
     /** For each KIND the bits of the KINDS that one of it IS. */
     private static final int[] IS = {0b000001, 0b000011, 0b000101, 0b001001, 0b011001, 0b100101};
@@ -788,7 +790,7 @@ public final class PairStairs {
         }
         int i = (int) (lot % plan.people);
         int j = (int) (lot / 64 % plan.people);
-        int least = i == j || areApart(i, j) ? Integer.MAX_VALUE : least(i, j, stonesWith(i));
+        int least = i == j || areApart(i, j) ? FAR : least(i, j, stonesWith(i));
         if (least / 256 > plan.limit) {
             deeds.add(0, 0, 0, 0);
             return;
@@ -1036,7 +1038,7 @@ public final class PairStairs {
 
         /** As PairStairs.least, under two of whom one COUNTS so much more. */
         int least(int ahead, boolean twins, int free) {
-            int least = Integer.MAX_VALUE;
+            int least = FAR;
             for (int set = 0; set <= allStones(); set++) {
                 for (int others = 0; others <= allStones() && (set & ~free) == 0; others++) {
                     if ((others & (set | ~free)) == 0) {
@@ -1110,10 +1112,6 @@ public final class PairStairs {
     /** Where GOES can lead. A place is who is at the TOP (6 bits), and 64 times which STONES are. */
     private static final class Ways {
         private static final int PEOPLE = 1 << MOST_PEOPLE, STONES = 1 << MOST_STONES, ALL = PEOPLE * STONES;
-        /** For each set of STONES the sets within it (a bit for each). */
-        private static final int[] WITHIN = {
-            0x0001, 0x0003, 0x0005, 0x000F, 0x0011, 0x0033, 0x0055, 0x00FF,
-            0x0101, 0x0303, 0x0505, 0x0F0F, 0x1111, 0x3333, 0x5555, 0xFFFF};
         int people;
         /** By 6 times the lesser one and the other: the sets of STONES with which they can GO (a bit for each). */
         final int[] open = new int[MOST_PEOPLE * MOST_PEOPLE];
@@ -1158,9 +1156,9 @@ public final class PairStairs {
         private void leaveBy(int place, int pair, int free) {
             int moved = place ^ (1 << pair / 6 | 1 << pair % 6);
             int by = distance[place] == 0 ? pair : first[place];
-            int sets = open[pair] & WITHIN[free];
+            int sets = open[pair];
             for (int set = 0; set < STONES && sets >> set != 0; set++) {
-                if ((sets >> set & 1) == 1) {
+                if ((sets >> set & 1) == 1 && (set & ~free) == 0) {
                     reach(moved ^ PEOPLE * set, distance[place] + 1, by);
                 }
             }
@@ -1227,14 +1225,22 @@ public final class PairStairs {
         private static int joined(int sets, int open, int free) {
             int joined = 0;
             for (int set = 0; set < STONES; set++) {
-                int added = (sets >> set & 1) == 1 ? open & WITHIN[free & ~set] : 0;
-                for (int more = 0; more < STONES && added >> more != 0; more++) {
-                    if ((added >> more & 1) == 1) {
-                        joined |= 1 << (set | more);
-                    }
+                if ((sets >> set & 1) == 1) {
+                    joined |= added(set, open, free & ~set);
                 }
             }
             return joined;
+        }
+
+        /** The sets of STONES that are taken when one that is open and free is added to a set. */
+        private static int added(int set, int open, int free) {
+            int added = 0;
+            for (int more = 0; more < STONES && open >> more != 0; more++) {
+                if ((open >> more & 1) == 1 && (more & ~free) == 0) {
+                    added |= 1 << (set | more);
+                }
+            }
+            return added;
         }
 
         /** How many are at the TOP after so many turns without STONES, the first wanting many, the other few. */

@@ -506,6 +506,27 @@ final class DeedEdgesTests extends Edges {
         x.counts(3, 3);
     }
 
+    @Says(in = 18, words = "The TOWER is as it was kept")
+    static void stonesAndStepsOfEachDeedComeBack(Probe x) {
+        x.build("x9o4o9g10g12");
+        x.due(2, "go", 0, 1, 1, 0);
+        x.due(2, "go", 1, 0, 0, 0);
+        x.due(7, "go", 0, 1, 2, 0);
+        x.due(3, "keep", 0);
+        x.due(3, "undo", 0);
+        x.due(6, "go", 1, 0, 1, 0);
+        x.due(1, "loaf");
+        x.due(6, "go", 0, 1, 0, 1);
+        x.due(3, "on", 0);
+        int[][] stonesAndSteps = {{0, 0}, {1, 2}, {1, 4}, {3, 11}};
+        for (int n = 3; n >= 0; n--) {
+            x.due(n < 3 ? 1 : 0, "undo", n);
+            x.counts(5, stonesAndSteps[n][0]);
+            x.counts(7, stonesAndSteps[n][1]);
+            x.counts(3, 0);
+        }
+    }
+
     private DeedEdgesTests() {
     }
 }

@@ -105,6 +105,35 @@ final class LotEdgesTests extends Edges {
         x.counts(4, 15);
     }
 
+    @Says(in = 32, words = "By turns two let a pair GO")
+    static void sendKnowsThePairsOfTheFirstAndOfTheLast(Probe x) {
+        x.build("x0g10g10g20g30g40g50");
+        x.due(0, "go", 0, 1, 0, 0);
+        x.leaves(0, "send", 1);
+        x.leaves(0, "send", 2);
+        Probe last = x.another();
+        last.build("x0g10g20g30g40g50g50");
+        last.due(0, "go", 4, 5, 0, 0);
+        last.leaves(0, "send", 1);
+    }
+
+    @Says(in = 32, words = "let a pair GO with no STONES (or none)")
+    static void sendLetsNobodyGoWhoCannot(Probe x) {
+        x.build("x0n05g10");
+        x.due(0, "go", 0, 1, 0, 0);
+        x.leaves(0, "send", 1);
+        x.due(1, "loaf");
+        x.leaves(2, "send", 1);
+        x.leaves(2, "send", 2);
+        Probe limit = x.another();
+        limit.build("x1n05g10");
+        limit.due(0, "go", 0, 1, 0, 0);
+        limit.loaves(1);
+        limit.leaves(0, "send", 1);
+        limit.due(2, "loaf");
+        limit.leaves(2, "send", 1);
+    }
+
     // ---- 33 odds, 34 mid
 
     private static void badOfNobodyOrOneself(Probe x, String call) {
@@ -165,6 +194,18 @@ final class LotEdgesTests extends Edges {
         x.shares(14641, 20736, "odds", 0, 1, 1);
         x.shares(1, 1, "odds", 0, 3, 12);
         x.shares(1, 1, "odds", 0, 3, 5);
+    }
+
+    @Says(in = 33, words = "Chances that two CAN go")
+    static void oddsEndAtTheLimit(Probe x) {
+        for (int limit : new int[] {0, 3, 9}) {
+            Probe one = x.another();
+            one.build("x" + limit + "g50g" + (50 + limit) + "g" + (51 + limit));
+            one.shares(1, 1, "odds", 0, 1, 6);
+            one.shares(0, 1, "odds", 0, 2, 6);
+            one.shares(limit, 1, "mid", 0, 1, 6);
+            one.shares(limit + 1, 1, "mid", 2, 0, 6);
+        }
     }
 
     @Says(in = 33, words = "each STONE at their end is lost")
@@ -377,6 +418,35 @@ final class LotEdgesTests extends Edges {
         both.told(0, 48, "best", 1, 0);
         both.due(2, "lots", 1, 1);
         both.counts(5, 3);
+    }
+
+    @Says(in = 35, words = "GO with the STONES that best() tells")
+    static void lotsTakeNoStonesThatAreNotTold(Probe x) {
+        // 48271 modulo 4 is 3, by 64 it is 754, modulo 4 that is 2: 3 and 2 GO
+        x.build("x9o1o2o3o4g10g10g10g24");
+        x.due(1, "go", 0, 1, 1, 0);
+        x.told(5, 14, "best", 3, 2);
+        x.due(4, "lots", 1, 1);
+        x.counts(5, 15);
+        x.counts(7, 6);
+        Probe first = x.another();
+        first.build("x9o1o2o3o4g10g10g25g10");
+        first.told(5, 240, "best", 3, 2);
+        first.due(2, "lots", 1, 1);
+        first.counts(5, 15);
+        first.counts(7, 5);
+    }
+
+    @Says(in = 35, words = "0 a LOAF (if 9 are eaten: nothing, but it is a DEED)")
+    static void lotsOfLoavesAndOfNothingMoveNothing(Probe x) {
+        x.build("x1o1o1g10g20");
+        x.due(0, "lots", 1, 32);
+        x.due(0, "lots", 1, 1);
+        x.counts(2, 2);
+        x.counts(3, 1);
+        x.counts(4, 0);
+        x.counts(5, 0);
+        x.counts(7, 0);
     }
 
     private LotEdgesTests() {

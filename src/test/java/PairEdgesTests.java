@@ -230,6 +230,25 @@ final class PairEdgesTests extends Edges {
         one.aside(1, 3, "match");
     }
 
+    @Says(in = 22, words = "each STONE with one at most")
+    static void matchTriesAllPairingsOfTheSamePeople(Probe x) {
+        x.build("x0o5g10g15g10g15");
+        x.aside(2, 15, "match");
+        x.build("x0o5g10g10g15g15");
+        x.aside(2, 15, "match");
+        x.build("x0o5g10g15g15g10");
+        x.aside(2, 15, "match");
+    }
+
+    @Says(in = 22, words = "each STONE with one at most, a pair at one end with STONES that are there")
+    static void matchLendsStonesToBothOfAPair(Probe x) {
+        x.build("x0o5o8g10g13g30g33");
+        x.aside(1, 3, "match");
+        x.aside(1, 1, "up", 3);
+        x.aside(1, 15, "up", 12);
+        x.aside(2, 1, "pairs");
+    }
+
     @Says(in = 22, words = "who is in these by asked() (bits; of like many the least number)")
     static void matchTellsTheLeastNumberOfLikeMany(Probe x) {
         x.build("x0g10g20g30g20g10");
@@ -500,6 +519,37 @@ final class PairEdgesTests extends Edges {
         x.aside(1, 15, "up", 0b1100);
         x.none("up", 0b0101);
         x.none("up", 0b1111);
+    }
+
+    @Says(in = 26, words = "(others, STONES anywhere); the first GO of the first such row")
+    static void upLeavesStonesForThoseWhoComeLater(Probe x) {
+        x.build("x0o5o5g10g10g30g35");
+        x.aside(2, 1, "up", 15);
+        x.build("x0o5o5g30g35g10g10");
+        x.aside(2, 1, "up", 15);
+        x.build("x0o5o5g30g40g10g15");
+        x.aside(1, 1, "up", 3);
+        x.none("up", 15);
+    }
+
+    @Says(in = 26, words = "(others, STONES anywhere)")
+    static void upTakesStonesDownThatOnlyBalanceEachOther(Probe x) {
+        x.build("x0o5o5g10g10g30g40");
+        x.due(0, "go", 0, 1, 1, 2);
+        x.counts(5, 3);
+        x.aside(2, 1, "up", 12);
+    }
+
+    @Says(in = 26, words = "The fewest GOES from now on")
+    static void upOfATowerForgetsTheOneAhead(Probe x) {
+        x.build("x0g10g10");
+        x.aside(1, 1, "up", 3);
+        x.leaves(3, "ever");
+        x.build("x0g10g11");
+        x.told(1, 11, "one", 1, 1);
+        x.none("up", 3);
+        x.none("up", 2);
+        x.leaves(0, "ever");
     }
 
     // ---- 27 down

@@ -1,3 +1,4 @@
+import java.io.File;
 import java.lang.reflect.Method;
 import java.util.regex.Matcher;
 import java.util.regex.Pattern;
@@ -13,10 +14,20 @@ final class SentencesTests {
     private static final int PROMISES = 42;
 
     public static void main(String[] args) {
+        allTestsOfEdgesAreHere();
         for (int promise = 0; promise <= PROMISES; promise++) {
             everyEdgeIsSaid(promise);
         }
         CHECK.end();
+    }
+
+    private static void allTestsOfEdgesAreHere() {
+        String[] files = new File(System.getProperty("pairstairs.root", "."), "src/test/java").list();
+        int many = 0;
+        for (String file : files == null ? new String[0] : files) {
+            many += file.endsWith("EdgesTests.java") ? 1 : 0;
+        }
+        CHECK.due("classes of tests of edges", EDGES.length, many);
     }
 
     private static void everyEdgeIsSaid(int promise) {

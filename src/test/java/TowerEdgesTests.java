@@ -191,6 +191,8 @@ final class TowerEdgesTests extends Edges {
         takes(x, "x1g10?10", 5, LETTERS + " ");
         takes(x, "x1?10g10", 2, LETTERS + "o ");
         takes(x, "x1o1?10g10", 4, LETTERS + "o ");
+        takes(x, "x1o1o1o1o1?10g10", 10, LETTERS + " ");
+        takes(x, "x1g10g10g10g10g10g10?", 20, " ");
     }
 
     @Says(in = 0, words = "a letter, a figure that is none such")
@@ -641,6 +643,21 @@ final class TowerEdgesTests extends Edges {
         Probe all = x.another();
         all.build("x0l01g99g99g99g99g99");
         all.leaves(5, "mark", 0, 3);
+    }
+
+    @Says(in = 13, words = "a LAME (CANON, too) how many others COUNT more now")
+    static void eachOfTheOthersCountsMore(Probe x) {
+        x.build("x0l10l10l10l10l10l10");
+        x.leaves(0, "mark", 0, 3);
+        for (int other = 0; other < 6; other++) {
+            Probe one = x.another();
+            StringBuilder text = new StringBuilder("x0l10l10l10l10l10l10");
+            text.setCharAt(2 + 3 * other + 2, '1');
+            one.build(text.toString());
+            for (int i = 0; i < 6; i++) {
+                one.due(i == other ? 0 : 1, "mark", i, 3);
+            }
+        }
     }
 
     @Says(in = 13, words = "a CANON how many LOAVES can be eaten yet")

@@ -43,6 +43,26 @@ final class WeighEdgesTests extends Edges {
         x.holds("the last ROW is taken", x.ask(call, 0, 5) >= 0);
     }
 
+    private static void sizeByPairsThatAreNone(Probe x, String call) {
+        x.build("x0g10g10");
+        for (int size : new int[] {1, 15, 17, 18, 40}) {
+            x.due(size, "row", 0, size);
+            x.found(SIZE, call, 0, 0);
+        }
+    }
+
+    private static void unlikeByOneselfOrNobody(Probe x, String call) {
+        x.build("x0g10g10");
+        for (int other : new int[] {0, 2, -1}) {
+            x.fill(0, other, 0);
+            x.found(UNLIKE, call, 0, 0);
+        }
+        for (int sank : new int[] {-1, 201}) {
+            x.fill(0, 1, sank);
+            x.found(UNLIKE, call, 0, 0);
+        }
+    }
+
     // ---- ahead of the promises
 
     @Says(in = 0, words = "(a ROW of pairs, 0 to 8")
@@ -176,21 +196,13 @@ final class WeighEdgesTests extends Edges {
     }
 
     @Says(in = 29, words = "SIZE")
-    static void poundsByNinePairsAreSize(Probe x) {
-        x.build("x0g10g10");
-        x.due(18, "row", 0, 18);
-        x.found(SIZE, "pounds", 0, 0);
-        x.due(1, "row", 0, 1);
-        x.found(SIZE, "pounds", 0, 0);
+    static void poundsByPairsThatAreNoneAreSize(Probe x) {
+        sizeByPairsThatAreNone(x, "pounds");
     }
 
     @Says(in = 29, words = "UNLIKE")
-    static void poundsByOneselfAreUnlike(Probe x) {
-        x.build("x0g10g10");
-        x.fill(0, 0, 0);
-        x.found(UNLIKE, "pounds", 0, 0);
-        x.fill(0, 2, 0);
-        x.found(UNLIKE, "pounds", 0, 0);
+    static void poundsByOneselfOrNobodyAreUnlike(Probe x) {
+        unlikeByOneselfOrNobody(x, "pounds");
     }
 
     @Says(in = 29, words = "How many POUNDS (1 .. 99) one can have by these")
@@ -267,21 +279,13 @@ final class WeighEdgesTests extends Edges {
     }
 
     @Says(in = 30, words = "SIZE")
-    static void kindsByNinePairsAreSize(Probe x) {
-        x.build("x0g10g10");
-        x.due(18, "row", 0, 18);
-        x.found(SIZE, "kinds", 0, 0);
-        x.due(1, "row", 0, 1);
-        x.found(SIZE, "kinds", 0, 0);
+    static void kindsByPairsThatAreNoneAreSize(Probe x) {
+        sizeByPairsThatAreNone(x, "kinds");
     }
 
     @Says(in = 30, words = "UNLIKE")
-    static void kindsByOneselfAreUnlike(Probe x) {
-        x.build("x0g10g10");
-        x.fill(0, 0, 0);
-        x.found(UNLIKE, "kinds", 0, 0);
-        x.fill(0, 2, 0);
-        x.found(UNLIKE, "kinds", 0, 0);
+    static void kindsByOneselfOrNobodyAreUnlike(Probe x) {
+        unlikeByOneselfOrNobody(x, "kinds");
     }
 
     @Says(in = 30, words = "Of which KINDS (bits) one can be by these")
@@ -324,21 +328,13 @@ final class WeighEdgesTests extends Edges {
     }
 
     @Says(in = 31, words = "SIZE")
-    static void nextByNinePairsIsSize(Probe x) {
-        x.build("x0g10g10");
-        x.due(18, "row", 0, 18);
-        x.found(SIZE, "next", 0, 0);
-        x.due(1, "row", 0, 1);
-        x.found(SIZE, "next", 0, 0);
+    static void nextByPairsThatAreNoneIsSize(Probe x) {
+        sizeByPairsThatAreNone(x, "next");
     }
 
     @Says(in = 31, words = "UNLIKE")
-    static void nextByOneselfIsUnlike(Probe x) {
-        x.build("x0g10g10");
-        x.fill(0, 0, 0);
-        x.found(UNLIKE, "next", 0, 0);
-        x.fill(0, 2, 0);
-        x.found(UNLIKE, "next", 0, 0);
+    static void nextByOneselfOrNobodyIsUnlike(Probe x) {
+        unlikeByOneselfOrNobody(x, "next");
     }
 
     @Says(in = 31, words = "NONE: there is no KIND")
@@ -383,6 +379,18 @@ final class WeighEdgesTests extends Edges {
         one.aside(2, 1, "next", 0, 0);
         one.fill(0, 1, 25);
         one.aside(1, 2, "next", 0, 0);
+    }
+
+    @Says(in = 31, words = "so that these KINDS are told apart best")
+    static void nextOfOneKindTellsAPartOfOne(Probe x) {
+        x.build("x0g40t41g20");
+        x.due(1, "loaf");
+        int[][] kindsBy = {{1, GUEST}, {0, TWIN}, {21, CHILD}, {4, LAME}, {5, CANON}, {31, BUNDLE}};
+        for (int[] one : kindsBy) {
+            x.fill(0, 1, one[0]);
+            x.due(one[1], "kinds", 0, 0);
+            x.told(1, 1, "next", 0, 0);
+        }
     }
 
     private WeighEdgesTests() {
