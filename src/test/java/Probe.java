@@ -54,6 +54,12 @@ final class Probe {
         }
     }
 
+    /** A call that is written in one line, its name and its numbers with blanks between. */
+    long asWritten(String line) {
+        String[] parts = line.split(" ");
+        return ask(parts[0], Arrays.stream(parts).skip(1).mapToInt(Integer::parseInt).toArray());
+    }
+
     private static String told(String name, int... arguments) {
         return name + Arrays.toString(arguments).replace('[', '(').replace(']', ')');
     }

@@ -1,22 +1,25 @@
 import java.io.File;
 import java.lang.reflect.Method;
+import java.util.Arrays;
 import java.util.regex.Matcher;
 import java.util.regex.Pattern;
 
-/** Each word of the document that tells an edge (a refusal, a FINDING, NONE, a number) is one that a test says. */
+/** Each word of the document, from its Terms on, stands in words that a test says; headings and signatures do not count. */
 final class SentencesTests {
     private static final Class<?>[] EDGES = {RowEdgesTests.class, TowerEdgesTests.class, DeedEdgesTests.class,
-        PairEdgesTests.class, WeighEdgesTests.class, LotEdgesTests.class, ToldEdgesTests.class};
-    private static final Pattern EDGE =
-        Pattern.compile("\\b(BAD|FULL|STATE|SPENT|FINDING|NONE|NOTHING|BEYOND|UNLIKE|NOUGHT|SIZE|[0-9]+)\\b");
-    private static final Pattern HEADING = Pattern.compile("(======== [0-9]|---- [0-9])");
+        PairEdgesTests.class, WeighEdgesTests.class, LotEdgesTests.class, ToldEdgesTests.class,
+        StillEdgesTests.class};
+    private static final Pattern WORD = Pattern.compile("[A-Za-z0-9_]+");
+    private static final Pattern HEADING = Pattern.compile("(?m)^(## Terms$|```text$|```$|======== ANSWERS|"
+        + "======== [0-9]( LOTS:)?|Ahead of the calls .* the interface says: ---- [0-9][^(.]*)");
+    private static final Pattern SIGNATURE = Pattern.compile("(?s)^.*?`: ");
     private static final Check CHECK = new Check("sentences");
     private static final int PROMISES = 42;
 
     public static void main(String[] args) {
         allTestsOfEdgesAreHere();
         for (int promise = 0; promise <= PROMISES; promise++) {
-            everyEdgeIsSaid(promise);
+            everyWordIsSaid(promise);
         }
         CHECK.end();
     }
@@ -30,13 +33,13 @@ final class SentencesTests {
         CHECK.due("classes of tests of edges", EDGES.length, many);
     }
 
-    private static void everyEdgeIsSaid(int promise) {
+    private static void everyWordIsSaid(int promise) {
         String text = Edges.document(promise);
         boolean[] said = said(promise, text);
-        Matcher edge = EDGE.matcher(text);
-        while (edge.find()) {
-            String around = text.substring(Math.max(0, edge.start() - 30), Math.min(text.length(), edge.end() + 30));
-            CHECK.holds("a test for " + edge.group() + " of promise " + promise + " in '" + around + "'", said[edge.start()]);
+        Matcher word = WORD.matcher(text);
+        while (word.find()) {
+            String around = text.substring(Math.max(0, word.start() - 30), Math.min(text.length(), word.end() + 30));
+            CHECK.holds("a test for '" + word.group() + "' of promise " + promise + " in '" + around + "'", said[word.start()]);
         }
     }
 
@@ -54,9 +57,10 @@ final class SentencesTests {
                 }
             }
         }
-        Matcher heading = HEADING.matcher(text);
+        Arrays.fill(said, 0, Math.max(0, text.indexOf("## Terms")), true);
+        Matcher heading = (promise == 0 ? HEADING : SIGNATURE).matcher(text);
         while (heading.find()) {
-            said[heading.end() - 1] = true;
+            Arrays.fill(said, heading.start(), heading.end(), true);
         }
         return said;
     }

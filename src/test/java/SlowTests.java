@@ -2,6 +2,7 @@ import java.lang.reflect.InvocationTargetException;
 import java.lang.reflect.Method;
 import java.lang.reflect.Modifier;
 import java.util.ArrayList;
+import java.util.Arrays;
 import java.util.HashMap;
 import java.util.List;
 import java.util.Map;
@@ -20,12 +21,14 @@ final class SlowTests {
         "waits p", "worth", "worth", "loaves p p", "loaves p p", "up g", "down g", "ever", "pounds p r", "kinds p r",
         "next p r", "next p r", "send y", "odds p p q", "mid p p q", "lots l e", "asked", "upper", "lower",
         "count o", "finding", "findings f", "digest"};
+    /** What later calls answer is free. */
+    private static final int MOST_CALLS = 512;
     private static final Map<String, Method> FACE = new HashMap<>();
     private static final Map<String, Map<Long, Integer>> ANSWERED = new TreeMap<>();
     private static final Check CHECK = new Check("slow");
 
     public static void main(String[] args) {
-        int runs = args.length > 0 ? Integer.parseInt(args[0]) : 1500;
+        int runs = args.length > 0 ? Integer.parseInt(args[0]) : 2000;
         long seed = args.length > 1 ? Long.parseLong(args[1]) : 20261119L;
         for (Method method : PairStairs.class.getDeclaredMethods()) {
             if (Modifier.isPublic(method.getModifiers())) {
@@ -44,13 +47,15 @@ final class SlowTests {
         Slow slow = new Slow();
         List<String> told = new ArrayList<>();
         boolean wild = random.nextInt(3) == 0;
-        for (int k = 0; k < 90 && CHECK.wrong() == 0; k++) {
+        for (int k = 0; told.size() < MOST_CALLS && CHECK.wrong() == 0; k++) {
             if (random.nextInt(k == 0 ? 2 : 25) == 0) {
                 write(fast, slow, random, told);
             } else if (random.nextInt(12) == 0) {
                 weigh(fast, slow, random, told);
             } else if (random.nextInt(40) == 0) {
                 fill(fast, slow, random, told);
+            } else if (random.nextInt(40) == 0) {
+                goOn(fast, slow, random, told);
             }
             String[] call = CALLS[random.nextInt(CALLS.length)].split(" ");
             int[] arguments = new int[5];
@@ -71,13 +76,16 @@ final class SlowTests {
     }
 
     private static void both(PairStairs fast, Slow slow, List<String> told, String name, int... given) {
-        int[] all = java.util.Arrays.copyOf(given, 5);
+        if (told.size() >= MOST_CALLS) {
+            return;
+        }
+        int[] all = Arrays.copyOf(given, 5);
         Method method = FACE.get(name);
         Object[] arguments = new Object[method.getParameterCount()];
         for (int a = 0; a < arguments.length; a++) {
             arguments[a] = all[a];
         }
-        String call = name + java.util.Arrays.toString(arguments);
+        String call = name + Arrays.toString(arguments);
         long want = slow.call(name, all[0], all[1], all[2], all[3], all[4]);
         told.add(call + " " + want);
         ANSWERED.computeIfAbsent(name, n -> new HashMap<>()).merge(want < 0 ? want : 1, 1, Integer::sum);
@@ -116,6 +124,19 @@ final class SlowTests {
         both(fast, slow, told, "loaf");
         for (int pair = 0; pair < 36; pair++) {
             both(fast, slow, told, "go", pair / 6, pair % 6, 0, 0);
+        }
+    }
+
+    /** Keeps a TOWER, does other DEEDS, goes on from the kept one, and then undoes its DEEDS one by one. */
+    private static void goOn(PairStairs fast, Slow slow, Random random, List<String> told) {
+        int k = random.nextInt(3);
+        both(fast, slow, told, "keep", k);
+        both(fast, slow, told, "undo", random.nextInt(1 + (int) slow.call("count", 2, 0, 0, 0, 0)));
+        both(fast, slow, told, "lots", 1 + random.nextInt(20), 1 + random.nextInt(2147483646));
+        both(fast, slow, told, "on", k);
+        for (int n = (int) slow.call("count", 2, 0, 0, 0, 0); n >= 0 && random.nextInt(8) > 0; n--) {
+            both(fast, slow, told, "undo", n);
+            both(fast, slow, told, "digest");
         }
     }
 

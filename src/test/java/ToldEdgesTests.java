@@ -27,7 +27,7 @@ final class ToldEdgesTests extends Edges {
         x.due(508, "asked");
     }
 
-    @Says(in = 0, words = "in this order: BAD -1 (a number that is none, or not as told), FULL -2, STATE -4 (not now), SPENT -6 (more than told), FINDING -3 (finding() tells which), unless a call says so otherwise")
+    @Says(in = 0, words = "Refused is, the first of these that fits, in this order: BAD -1 (a number that is none, or not as told), FULL -2, STATE -4 (not now), SPENT -6 (more than told), FINDING -3 (finding() tells which), unless a call says so otherwise")
     static void badIsTheFirstOfAll(Probe x) {
         x.refused(BAD, "keep", 3);
         x.refused(BAD, "send", 3);
@@ -223,7 +223,7 @@ final class ToldEdgesTests extends Edges {
         x.told(1, 2, "next", 0, 0);
     }
 
-    @Says(in = 36, words = "asked")
+    @Says(in = 36, words = "pounds(), next() that was not refused (nor NONE) told")
     static void askedIsLeftByAllOtherCalls(Probe x) {
         x.build("x1o5g10g15g10t11");
         x.fill(0, 7);
@@ -233,12 +233,7 @@ final class ToldEdgesTests extends Edges {
             "send 1", "odds 0 2 6", "mid 0 2 6", "lots 2 1", "upper", "lower", "count 3", "finding", "findings 1",
             "digest", "tower 0"};
         for (String other : others) {
-            String[] parts = other.split(" ");
-            int[] arguments = new int[parts.length - 1];
-            for (int k = 1; k < parts.length; k++) {
-                arguments[k - 1] = Integer.parseInt(parts[k]);
-            }
-            x.ask(parts[0], arguments);
+            x.asWritten(other);
             x.due(7, "asked");
         }
     }
@@ -397,13 +392,8 @@ final class ToldEdgesTests extends Edges {
         x.due(0, "row", 0, 0);
         String[] calls = {"at 1 0", "at 0 0", "mark 0 1", "mean 0", "row 0 -1"};
         for (int f = 1; f <= FINDINGS; f++) {
-            String[] parts = calls[f - 1].split(" ");
-            int[] arguments = new int[parts.length - 1];
-            for (int k = 1; k < parts.length; k++) {
-                arguments[k - 1] = Integer.parseInt(parts[k]);
-            }
             for (int times = 0; times < f; times++) {
-                x.due(FINDING, parts[0], arguments);
+                x.holds(calls[f - 1] + " answers a FINDING", x.asWritten(calls[f - 1]) == FINDING);
             }
         }
         for (int f = 1; f <= FINDINGS; f++) {

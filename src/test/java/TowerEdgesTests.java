@@ -52,7 +52,7 @@ final class TowerEdgesTests extends Edges {
 
     // ---- ahead of the promises: the language
 
-    @Says(in = 0, words = "A TOWER (without PEOPLE, STONES at first)")
+    @Says(in = 0, words = "A TOWER (without PEOPLE, STONES at first) is a TEXT")
     static void towerIsWithoutAnybodyAtFirst(Probe x) {
         x.counts(0, 0);
         x.counts(1, 0);
@@ -106,7 +106,7 @@ final class TowerEdgesTests extends Edges {
         faulty(x, 8, "x1g10g10x1");
     }
 
-    @Says(in = 0, words = "the LIMIT (0 .. 9, one figure)")
+    @Says(in = 0, words = "First x (120) and the LIMIT (0 .. 9, one figure)")
     static void limitIsOneFigure(Probe x) {
         takes(x, "x?g10g10", 1, FIGURES);
         faulty(x, 2, "x00g10g10");
